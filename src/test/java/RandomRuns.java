@@ -1,64 +1,88 @@
 import java.lang.reflect.Method;
-import java.util.ArrayList;
-import java.util.Arrays;
-import java.util.Comparator;
+import java.lang.reflect.Modifier;
 import java.util.HashMap;
-import java.util.List;
 import java.util.Map;
 
 /** Runs of 512 calls that are drawn from a fixed row of numbers, each answer compared with that of Naive. */
 final class RandomRuns {
     private static final int CALLS = 512;
+    private static final int[] ODD_NUMBERS = {Integer.MIN_VALUE, Integer.MAX_VALUE, -2, 0, 40, 999, 1000};
+
+    /**
+     * The calls that change something, then those that only answer, each with the kinds of its arguments: v view,
+     * d document, p place, r rank, n small number, l letter, k kind of error, w what, i a boolean; and at last the
+     * row that it asks for: P plain, S simple, R regular.
+     */
+    private static final String[] CHANGES = {
+        "insert dp P", "cut dpn -", "remove d -", "snapshot - -", "drop v -", "keep - -", "crash - -", "tidy - -",
+        "tidy - -", "tidy - -", "learn - P", "wipe - -", "type l -",
+    };
+    private static final String[] QUESTIONS = {
+        "documents v -", "has vd -", "lengthOf vd -", "letterAt vdp -", "suffixAt vrw -", "rankOf vdp -", "turned vr -",
+        "runs v -", "ahead vlr -", "interval vni P", "count v S", "found vni S", "having v S", "top vn S",
+        "limited vn S", "near vnk P", "matches v R", "countOf vn -", "longestAt vdp -", "longestRepeat v -",
+        "maximal v -", "common vn -", "unique vd -", "squares vd -", "palindromes vdn -", "phrases vd -",
+        "phraseAt vdpw -", "pieces vdd -", "rules vdi -", "distance vdd -", "segments - -", "segmentOf d -", "dead n -",
+        "cost i P", "checksum v -", "runShare v -", "meanCommon v -", "isSound - -",
+    };
     private static final String[] REGULARS = {
         "a", "ab*", "(a|b)*", "a(ab|b)*a", ".*", "(a*b*)*", "((a)*)*b", "(.b)*|c", "a|b|ab", "b*a.", "(a*)*",
         "a**", "*a", "()", "(|a)", "a|", "|a", "((a)", "a)", "(a(b(c|a)*)*)*", "((((((((((((((((((((", "a~", "a(b|)c",
     };
 
-    private final Checks checks;
-    private final Map<String, Method> mine = new HashMap<>();
-    private final List<Method> methods = new ArrayList<>();
+    private final Map<String, Method> mine = methodsOf(Suffixhall.class);
+    private final Map<String, Method> due = methodsOf(Naive.class);
+    private final long start;
+    private final int number;
     private long seed;
     private int kinds;
     private Suffixhall hall;
     private Naive naive;
     private StringBuilder told;
+    private String wrong;
     private int calls;
 
-    RandomRuns(Checks checks) {
-        this.checks = checks;
-        for (Method method : Suffixhall.class.getDeclaredMethods()) {
-            if (java.lang.reflect.Modifier.isPublic(method.getModifiers())) {
-                mine.put(method.getName(), method);
-            }
-        }
-        for (Method method : Naive.class.getDeclaredMethods()) {
-            if (java.lang.reflect.Modifier.isPublic(method.getModifiers())) {
-                methods.add(method);
-            }
-        }
-        methods.sort(Comparator.comparing(Method::getName));
+    private RandomRuns(int number) {
+        this.number = number;
+        start = 88172645463325252L + number * 7919L;
     }
 
     static void check(Checks checks, int runs) {
-        RandomRuns all = new RandomRuns(checks);
         for (int run = 0; run < runs; run++) {
-            checks.same("random run " + run, "as due", all.run(run));
+            checks.same("random run " + run, "as due", new RandomRuns(run).run());
         }
     }
 
-    private String run(int number) {
-        seed = 88172645463325252L + number * 7919L;
+    private static Map<String, Method> methodsOf(Class<?> owner) {
+        Map<String, Method> methods = new HashMap<>();
+        for (Method method : owner.getDeclaredMethods()) {
+            if (Modifier.isPublic(method.getModifiers())) {
+                methods.put(method.getName(), method);
+            }
+        }
+        return methods;
+    }
+
+    private String run() {
+        seed = start;
         kinds = 1 + number % 5;
         hall = new Suffixhall();
         naive = new Naive();
         told = new StringBuilder();
-        for (calls = 0; calls < CALLS;) {
-            String wrong = step(number % 3);
-            if (wrong != null) {
-                return wrong + " after " + told;
+        int documents = 1 + draw(14);
+        int biggest = 2 + draw(draw(4) == 0 ? 19 : 6);
+        while (calls < CALLS && wrong == null) {
+            int what = draw(10);
+            if (what < 2 && (hall.documents(-1) < documents || draw(6) == 0)) {
+                write(letters(1 + draw(biggest)));
+                call(draw(4) == 0 ? "insert " + document() + " " + place() : "add");
+            } else if (what < 4) {
+                drawn(CHANGES[draw(CHANGES.length)]);
+            } else {
+                drawn(QUESTIONS[draw(QUESTIONS.length)]);
             }
         }
-        return "as due";
+        return wrong == null ? "as due" : wrong + " after " + told;
     }
 
     private int draw(int bound) {
@@ -68,126 +92,140 @@ final class RandomRuns {
         return (int) Math.floorMod(seed >>> 8, (long) bound);
     }
 
-    private String step(int mood) {
-        int what = draw(100);
-        int growing = mood == 0 ? 30 : mood == 1 ? 12 : 20;
-        if (what < growing) {
-            return grow();
+    private void drawn(String call) {
+        String[] parts = call.split(" ");
+        boolean isRare = call.startsWith("crash") || call.startsWith("remove") && hall.documents(-1) < 5;
+        if (isRare && draw(5) != 0) {
+            return;
         }
-        if (what < growing + 6) {
-            return write(rowOf());
+        if (!parts[2].equals("-") && draw(5) != 0) {
+            write(rowOf(draw(12) == 0 ? "PSR".charAt(draw(3)) : parts[2].charAt(0)));
         }
-        if (what < growing + 10) {
-            return call("tidy");
+        StringBuilder drawn = new StringBuilder(parts[0]);
+        for (char kind : parts[1].equals("-") ? new char[0] : parts[1].toCharArray()) {
+            drawn.append(' ').append(argument(kind));
         }
-        if (what < growing + 14) {
-            return call("cut", drawDocument(), draw(5) - 1, draw(5));
-        }
-        if (what < growing + 16) {
-            return call("snapshot");
-        }
-        if (what < growing + 18) {
-            return call(draw(4) == 0 ? "crash" : draw(3) == 0 ? "keep" : "learn");
-        }
-        Method method = methods.get(draw(methods.size()));
-        boolean isRare = method.getName().equals("crash") || method.getName().equals("wipe")
-            || method.getName().equals("remove") && mood == 0;
-        return isRare && draw(4) != 0 ? null : call(method.getName(), argumentsFor(method));
+        call(drawn.toString());
     }
 
-    private String grow() {
+    private String argument(char kind) {
+        switch (kind) {
+            case 'v':
+                return String.valueOf(draw(20) == 0 ? oddNumber() : view());
+            case 'd':
+                return String.valueOf(draw(20) == 0 ? oddNumber() : document());
+            case 'p':
+                return String.valueOf(draw(30) == 0 ? oddNumber() : place());
+            case 'r':
+                return String.valueOf(draw(30) == 0 ? oddNumber() : draw(70) - 1);
+            case 'n':
+                return String.valueOf(draw(30) == 0 ? oddNumber() : draw(6) - 1);
+            case 'i':
+                return String.valueOf(draw(2) == 0);
+            default:
+                String signs = kind == 'l' ? "abcde$.f" : kind == 'k' ? "seetttx" : "dplfplfx";
+                return String.valueOf(signs.charAt(draw(signs.length())));
+        }
+    }
+
+    private int oddNumber() {
+        return ODD_NUMBERS[draw(ODD_NUMBERS.length)];
+    }
+
+    private int view() {
+        int view = draw(2) == 0 ? -1 : draw(20);
+        for (int i = 0; i < 30 && "throws".equals(answer(hall, mine, "documents " + view).split("\\.")[0]); i++) {
+            view = draw(21) - 1;
+        }
+        return view;
+    }
+
+    private int document() {
+        int document = draw(12);
+        for (int i = 0; i < 40 && !hall.has(-1, document); i++) {
+            document = draw(41);
+        }
+        return document;
+    }
+
+    private int place() {
+        return draw(3) == 0 ? draw(12) : draw(4);
+    }
+
+    private String letters(int size) {
         StringBuilder letters = new StringBuilder();
-        int size = 1 + draw(draw(3) == 0 ? 14 : 4);
         for (int i = 0; i < size; i++) {
             letters.append((char) ('a' + draw(kinds)));
         }
-        String wrong = write(letters.toString());
-        if (wrong != null) {
-            return wrong;
-        }
-        return draw(3) == 0 ? call("insert", drawDocument(), draw(6)) : call("add");
+        return letters.toString();
     }
 
-    private String rowOf() {
-        int sort = draw(4);
-        if (sort == 0) {
+    private String rowOf(char sort) {
+        if (sort == 'P') {
+            return letters(1 + draw(draw(3) == 0 ? 9 : 3));
+        }
+        if (sort == 'R' && draw(3) == 0) {
             return REGULARS[draw(REGULARS.length)];
         }
-        String signs = sort == 1 ? "abab.~" : sort == 2 ? "aabbc" : "ab(()|*.)";
+        if (sort == 'R' && draw(4) != 0) {
+            String regular = regular(3);
+            return regular.length() > 20 ? "(" + letters(2) + ")*" : regular;
+        }
+        String signs = sort == 'S' ? "abaab.~" : "ab(()|*.)";
         StringBuilder row = new StringBuilder();
-        int size = 1 + draw(sort == 3 ? 9 : 5);
+        int size = 1 + draw(5);
         for (int i = 0; i < size; i++) {
-            row.append(signs.charAt(draw(signs.length())));
+            row.append(draw(3) == 0 ? letters(1) : signs.substring(draw(signs.length())).substring(0, 1));
         }
         return row.toString();
     }
 
-    private String write(String row) {
-        String wrong = call("wipe");
-        for (int i = 0; i < row.length() && wrong == null; i++) {
-            wrong = call("type", row.charAt(i));
+    private String regular(int depth) {
+        StringBuilder row = new StringBuilder();
+        int items = 1 + draw(4);
+        for (int i = 0; i < items; i++) {
+            row.append(depth > 0 && draw(3) == 0 ? "(" + regular(depth - 1) + ")" : draw(6) == 0 ? "." : letters(1));
+            row.append(draw(3) == 0 ? "*" : "");
+            row.append(i + 1 < items && draw(4) == 0 ? "|" : "");
         }
-        return wrong;
+        return row.toString();
     }
 
-    private int drawDocument() {
-        for (int i = 0; i < 8; i++) {
-            int document = draw(42) - 1;
-            if (hall.has(-1, document)) {
-                return document;
-            }
+    private void write(String row) {
+        call("wipe");
+        for (int i = 0; i < row.length(); i++) {
+            call("type " + row.charAt(i));
         }
-        return draw(42) - 1;
     }
 
-    private Object[] argumentsFor(Method method) {
-        Class<?>[] types = method.getParameterTypes();
-        Object[] values = new Object[types.length];
-        for (int i = 0; i < types.length; i++) {
-            if (types[i] == boolean.class) {
-                values[i] = draw(2) == 0;
-            } else if (types[i] == char.class) {
-                String signs = method.getName().equals("near") ? "setx" : method.getName().equals("type") ? "ab.~()|*x"
-                    : "abcde$dplfplfx";
-                values[i] = signs.charAt(draw(signs.length()));
+    private static String answer(Object hall, Map<String, Method> methods, String call) {
+        String[] parts = call.split(" ");
+        Method method = methods.get(parts[0]);
+        Object[] values = new Object[parts.length - 1];
+        for (int i = 0; i < values.length; i++) {
+            Class<?> type = method.getParameterTypes()[i];
+            String part = parts[i + 1];
+            if (type == int.class) {
+                values[i] = Integer.valueOf(part);
+            } else if (type == char.class) {
+                values[i] = part.charAt(0);
             } else {
-                values[i] = numberFor(method.getName(), i);
+                values[i] = Boolean.valueOf(part);
             }
         }
-        return values;
+        return Checks.answerOf(() -> method.invoke(hall, values));
     }
 
-    private int numberFor(String name, int index) {
-        boolean isChange = name.equals("insert") || name.equals("cut") || name.equals("remove");
-        if (draw(60) == 0) {
-            return new int[] {Integer.MIN_VALUE, Integer.MAX_VALUE, -2, 999, 1000, 40}[draw(6)];
-        }
-        if (index == 0 && !isChange && !name.equals("drop") && !name.equals("segmentOf") && !name.equals("dead")) {
-            return draw(3) != 0 ? -1 : draw(20) - 1;
-        }
-        boolean isDocument = name.equals("distance") || name.equals("pieces") || index == 0
-            || index == 1 && (name.endsWith("Of") || name.endsWith("At") || name.startsWith("p") || name.equals("rules")
-            || name.equals("unique") || name.equals("squares") || name.equals("has"));
-        if (isDocument && !name.equals("suffixAt") && !name.equals("countOf") && !name.equals("dead")
-            && !name.equals("drop")) {
-            return drawDocument();
-        }
-        if (name.equals("near") || name.equals("palindromes") || name.equals("common")) {
-            return draw(5) - 1;
-        }
-        boolean isRank = name.equals("suffixAt") || name.equals("turned") || name.equals("ahead");
-        return draw(isRank ? 60 : 10) - 1;
-    }
-
-    private String call(String name, Object... arguments) {
-        if (calls >= CALLS) {
-            return null;
+    private void call(String call) {
+        if (calls >= CALLS || wrong != null) {
+            return;
         }
         calls++;
-        Method due = methods.stream().filter(method -> method.getName().equals(name)).findFirst().get();
-        String want = Checks.answerOf(() -> due.invoke(naive, arguments));
-        String got = Checks.answerOf(() -> mine.get(name).invoke(hall, arguments));
-        told.append(name).append(Arrays.toString(arguments)).append(" = ").append(got).append("; ");
-        return want.equals(got) ? null : name + Arrays.toString(arguments) + " = " + got + ", due is " + want;
+        String want = answer(naive, due, call);
+        String got = answer(hall, mine, call);
+        told.append(call).append(" = ").append(got).append("; ");
+        if (!want.equals(got)) {
+            wrong = call + " = " + got + ", due is " + want;
+        }
     }
 }
