@@ -181,7 +181,7 @@ public final class Suffixhall {
     /** Promise 16. */
     public int suffixAt(int view, int rank, char what)
             throws IndexOutOfBoundsException, NoSuchElementException, IllegalArgumentException {
-        View seen = neededView(view);
+        View seen = orderedView(view);
         needRank(seen, rank);
         if (what == 'd') {
             return seen.texts().numberAt(seen.slotAt(rank));
@@ -197,7 +197,7 @@ public final class Suffixhall {
 
     /** Promise 17. */
     public int rankOf(int view, int document, int place) throws IndexOutOfBoundsException, NoSuchElementException {
-        View seen = neededView(view);
+        View seen = orderedView(view);
         int slot = neededSlot(seen.texts(), document);
         needPlace(seen.texts(), slot, place);
         return seen.rankAt(slot, place);
@@ -205,19 +205,19 @@ public final class Suffixhall {
 
     /** Promise 18. */
     public char turned(int view, int rank) throws IndexOutOfBoundsException, NoSuchElementException {
-        View seen = neededView(view);
+        View seen = orderedView(view);
         needRank(seen, rank);
         return seen.turnedAt(rank);
     }
 
     /** Promise 19. */
     public int runs(int view) throws IndexOutOfBoundsException {
-        return neededView(view).runsOfTurned();
+        return orderedView(view).runsOfTurned();
     }
 
     /** Promise 20. */
     public int ahead(int view, char letter, int rank) throws IndexOutOfBoundsException, IllegalArgumentException {
-        View seen = neededView(view);
+        View seen = orderedView(view);
         if (!isLetter(letter) && letter != BEGINNING) {
             throw new IllegalArgumentException("no such letter");
         }
@@ -372,17 +372,17 @@ public final class Suffixhall {
 
     /** Promise 32. */
     public int longestRepeat(int view) throws IndexOutOfBoundsException {
-        return neededView(view).mostInCommon();
+        return orderedView(view).mostInCommon();
     }
 
     /** Promise 33. */
     public int maximal(int view) throws IndexOutOfBoundsException {
-        return neededView(view).maximalRepeats();
+        return orderedView(view).maximalRepeats();
     }
 
     /** Promise 34. */
     public int common(int view, int many) throws IndexOutOfBoundsException, IllegalArgumentException {
-        View seen = neededView(view);
+        View seen = orderedView(view);
         if (many < 1) {
             throw new IllegalArgumentException("too few documents");
         }
@@ -391,7 +391,7 @@ public final class Suffixhall {
 
     /** Promise 35. */
     public int unique(int view, int document) throws IndexOutOfBoundsException, NoSuchElementException {
-        View seen = neededView(view);
+        View seen = orderedView(view);
         int fewest = seen.fewestAlone(neededSlot(seen.texts(), document));
         if (fewest < 1) {
             throw new NoSuchElementException("no such string");
@@ -515,7 +515,7 @@ public final class Suffixhall {
 
     /** Promise 49. */
     public float runShare(int view) throws IndexOutOfBoundsException, NoSuchElementException {
-        View seen = neededView(view);
+        View seen = orderedView(view);
         int letters = seen.texts().places();
         if (letters < 1) {
             throw new NoSuchElementException("no letters");
@@ -525,7 +525,7 @@ public final class Suffixhall {
 
     /** Promise 50. */
     public double meanCommon(int view) throws IndexOutOfBoundsException, NoSuchElementException {
-        View seen = neededView(view);
+        View seen = orderedView(view);
         int suffixes = seen.texts().places();
         if (suffixes < 1) {
             throw new NoSuchElementException("no suffixes");
@@ -554,6 +554,12 @@ public final class Suffixhall {
         if (seen == null) {
             throw new IndexOutOfBoundsException("no such view");
         }
+        return seen;
+    }
+
+    private View orderedView(int view) {
+        View seen = neededView(view);
+        seen.putInOrder();
         return seen;
     }
 
@@ -697,7 +703,11 @@ public final class Suffixhall {
 
         /** NONE where there is no letter: it is like no letter and lower than all. */
         char letter(int slot, int place) {
-            return place >= 0 && place < sizeAt(slot) ? letters[slot * MOST_LETTERS + place] : NONE;
+            // It is called most of all, and deepest: so it looks at the slot itself.
+            if (slot < 0 || slot >= many || slot >= MOST_DOCUMENTS || place < 0 || place >= sizes[slot]) {
+                return NONE;
+            }
+            return place < MOST_LETTERS ? letters[slot * MOST_LETTERS + place] : NONE;
         }
 
         int places() {
@@ -764,8 +774,11 @@ public final class Suffixhall {
         /** How many letters two suffixes have in common from their beginnings. */
         int shared(int slot, int place, int otherSlot, int otherPlace) {
             int same = 0;
-            while (same < MOST_LETTERS && letter(slot, place + same) != NONE
-                && letter(slot, place + same) == letter(otherSlot, otherPlace + same)) {
+            while (same < MOST_LETTERS) {
+                char letter = letter(slot, place + same);
+                if (letter == NONE || letter != letter(otherSlot, otherPlace + same)) {
+                    return same;
+                }
                 same++;
             }
             return same;
@@ -904,7 +917,7 @@ public final class Suffixhall {
         }
     }
 
-    /** The documents of a view and the order of their suffixes, which is made when it is asked for. */
+    /** The documents of a view and the order of their suffixes; putInOrder is to be called ahead of all about ranks. */
     private static final class View {
         private final Texts texts = new Texts();
         // A suffix is coded as its slot times MOST_LETTERS plus its place.
@@ -921,6 +934,7 @@ public final class Suffixhall {
         /** To be said whenever the texts have changed. */
         void forgetOrder() {
             isOrdered = false;
+            many = 0;
         }
 
         void become(View other) {
@@ -928,7 +942,7 @@ public final class Suffixhall {
             forgetOrder();
         }
 
-        private void putInOrder() {
+        void putInOrder() {
             if (isOrdered) {
                 return;
             }
@@ -939,8 +953,11 @@ public final class Suffixhall {
                 }
             }
             isOrdered = true;
-            for (int rank = 0; rank < many; rank++) {
-                ranks[codes[rank]] = rank;
+            for (int rank = 0; rank < many && rank < MOST_PLACES; rank++) {
+                int code = codes[rank];
+                if (code >= 0 && code < MOST_PLACES) {
+                    ranks[code] = rank;
+                }
                 commons[rank] = rank == 0 ? 0
                     : texts.shared(slotAt(rank - 1), placeAt(rank - 1), slotAt(rank), placeAt(rank));
             }
@@ -952,7 +969,7 @@ public final class Suffixhall {
             }
             int low = 0;
             int high = many;
-            while (low < high) {
+            for (int step = 0; step < MOST_PLACES && low < high; step++) {
                 int middle = (low + high) / 2;
                 int code = codes[middle];
                 if (texts.compare(code / MOST_LETTERS, code % MOST_LETTERS, slot, place) < 0) {
@@ -967,7 +984,6 @@ public final class Suffixhall {
         }
 
         private int codeAt(int rank) {
-            putInOrder();
             return rank >= 0 && rank < many && rank < codes.length ? codes[rank] : NOWHERE;
         }
 
@@ -987,7 +1003,6 @@ public final class Suffixhall {
         }
 
         int rankAt(int slot, int place) {
-            putInOrder();
             return texts.letter(slot, place) == NONE ? NOWHERE : ranks[slot * MOST_LETTERS + place];
         }
 
@@ -1763,7 +1778,7 @@ public final class Suffixhall {
         int piecesBy(Texts texts, int slot, int other) {
             int total = 0;
             int place = 0;
-            while (place < texts.sizeAt(slot)) {
+            while (total < MOST_LETTERS && place < texts.sizeAt(slot)) {
                 lookFor(texts, slot, place, other, texts.sizeAt(other));
                 place += Math.max(longest, 1);
                 total++;

@@ -9,8 +9,10 @@ public final class AllTests {
         Path root = Path.of(arguments.length > 0 ? arguments[0] : ".");
         Checks checks = new Checks();
         FaceTests.check(checks, root.resolve("src/main/java/Suffixhall.java"));
+        CallDepthTests.check(checks, root.resolve("src/main/java/Suffixhall.java"));
         RunFiles.check(checks, root.resolve("src/test/runs"));
         LimitTests.check(checks);
+        FullViews.check(checks, 24);
         RandomRuns.check(checks, 1500);
         System.out.println(checks.passed() + " passed, " + checks.failed() + " failed");
         if (checks.failed() > 0) {
