@@ -11,6 +11,7 @@ public final class AllTests {
         FaceTests.check(checks, root.resolve("src/main/java/Suffixhall.java"));
         CallDepthTests.check(checks, root.resolve("src/main/java/Suffixhall.java"));
         RunFiles.check(checks, root.resolve("src/test/runs"));
+        Edges.check(checks, root.resolve("src/test/edges"), root.resolve("../shared/DOC.md"));
         LimitTests.check(checks);
         FullViews.check(checks, 24);
         RandomRuns.check(checks, 1500);
