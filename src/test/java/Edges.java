@@ -43,6 +43,10 @@ final class Edges {
             run.check(checks);
             Unchanged.check(checks, run);
         }
+        if (!Files.exists(document)) {
+            System.out.println("the words of the edges are not compared: there is no " + document);
+            return;
+        }
         Edges edges = new Edges(checks, runs, document);
         edges.checkWords();
         edges.checkAllNamed();
