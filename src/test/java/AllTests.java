@@ -8,8 +8,12 @@ public final class AllTests {
     public static void main(String[] arguments) throws Exception {
         Path root = Path.of(arguments.length > 0 ? arguments[0] : ".");
         Checks checks = new Checks();
-        FaceTests.check(checks, root.resolve("src/main/java/Suffixhall.java"));
-        CallDepthTests.check(checks, root.resolve("src/main/java/Suffixhall.java"));
+        Path file = root.resolve("src/main/java/Suffixhall.java");
+        Source source = Source.read(file);
+        FaceTests.check(checks, file);
+        LanguageTests.check(checks, source);
+        CallDepthTests.check(checks, source);
+        ReadmeTests.check(checks, root);
         RunFiles.check(checks, root.resolve("src/test/runs"));
         Edges.check(checks, root.resolve("src/test/edges"), root.resolve("../shared/DOC.md"));
         LimitTests.check(checks);

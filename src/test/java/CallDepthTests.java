@@ -1,24 +1,16 @@
-import com.sun.source.tree.CompilationUnitTree;
 import com.sun.source.tree.MethodInvocationTree;
 import com.sun.source.tree.MethodTree;
-import com.sun.source.util.JavacTask;
 import com.sun.source.util.TreePathScanner;
 import com.sun.source.util.Trees;
-import java.io.IOException;
-import java.nio.file.Path;
 import java.util.ArrayDeque;
 import java.util.Deque;
 import java.util.LinkedHashSet;
-import java.util.List;
 import java.util.Map;
 import java.util.Set;
 import java.util.TreeMap;
 import java.util.TreeSet;
 import javax.lang.model.element.Element;
 import javax.lang.model.element.ElementKind;
-import javax.tools.JavaCompiler;
-import javax.tools.StandardJavaFileManager;
-import javax.tools.ToolProvider;
 
 /** Rule 11 of LANGUAGE.md: calls that are no recursion go at most eight deep; and rule 8: what calls itself. */
 final class CallDepthTests {
@@ -33,9 +25,9 @@ final class CallDepthTests {
     private CallDepthTests() {
     }
 
-    static void check(Checks checks, Path source) throws IOException {
+    static void check(Checks checks, Source source) {
         CallDepthTests all = new CallDepthTests();
-        all.read(source);
+        all.new Calls(source.trees).scan(source.unit, null);
         for (String method : all.calls.keySet()) {
             if (method.startsWith("Suffixhall.")) {
                 int depth = all.depthOf(method);
@@ -43,19 +35,6 @@ final class CallDepthTests {
             }
         }
         checks.same("what calls itself", RECURSION, all.recursive.toString());
-    }
-
-    private void read(Path source) throws IOException {
-        JavaCompiler compiler = ToolProvider.getSystemJavaCompiler();
-        try (StandardJavaFileManager files = compiler.getStandardFileManager(null, null, null)) {
-            JavacTask task = (JavacTask) compiler.getTask(null, files, null, List.of("-proc:none"), null,
-                files.getJavaFileObjects(source));
-            Iterable<? extends CompilationUnitTree> units = task.parse();
-            task.analyze();
-            for (CompilationUnitTree unit : units) {
-                new Calls(Trees.instance(task)).scan(unit, null);
-            }
-        }
     }
 
     private final class Calls extends TreePathScanner<Void, Void> {
@@ -68,7 +47,7 @@ final class CallDepthTests {
 
         @Override
         public Void visitMethod(MethodTree tree, Void nothing) {
-            caller = nameOf(trees.getElement(getCurrentPath()));
+            caller = Source.nameOf(trees.getElement(getCurrentPath()));
             calls.computeIfAbsent(caller, name -> new LinkedHashSet<>());
             return super.visitMethod(tree, nothing);
         }
@@ -77,13 +56,9 @@ final class CallDepthTests {
         public Void visitMethodInvocation(MethodInvocationTree tree, Void nothing) {
             Element called = trees.getElement(getCurrentPath());
             if (caller != null && called != null && called.getKind() == ElementKind.METHOD) {
-                calls.get(caller).add(nameOf(called));
+                calls.get(caller).add(Source.nameOf(called));
             }
             return super.visitMethodInvocation(tree, nothing);
-        }
-
-        private String nameOf(Element method) {
-            return method.getEnclosingElement().getSimpleName() + "." + method.getSimpleName();
         }
     }
 

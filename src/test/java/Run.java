@@ -14,9 +14,9 @@ import java.util.stream.Stream;
 
 /**
  * Calls on one new object, as a file tells them in the document's own way of writing: call(..) = answer; and so on. An
- * empty line begins a new run, '#' a comment. more("..") types signs, write("..") wipes the row before,
- * text("..") does so and adds them as a document, n * call(..) = answer; makes the call n times, each with that answer, and a line that begins
- * with "n times:" is gone through n times. A letter that can't be seen is written by its number: (char) 0.
+ * empty line begins a new run, '#' a comment. more("..") types signs, write("..") wipes the row before, text("..") does
+ * so and adds them as a document, n * call(..) = answer; makes the call n times, each with that answer, and a line that
+ * begins with "n times:" is gone through n times. A letter that can't be seen is written by its number: (char) 0.
  */
 final class Run {
     static final int MOST_CALLS = 512;
@@ -87,12 +87,16 @@ final class Run {
     }
 
     static List<Run> read(Path file) throws IOException {
+        return read(file.getFileName().toString(), Files.readAllLines(file));
+    }
+
+    static List<Run> read(String name, List<String> lines) {
         List<Run> runs = new ArrayList<>();
         Run run = null;
         int number = 0;
-        for (String line : Files.readAllLines(file)) {
+        for (String line : lines) {
             number++;
-            String here = file.getFileName() + ":" + number;
+            String here = name + ":" + number;
             if (line.isBlank()) {
                 run = null;
                 continue;
